@@ -621,7 +621,7 @@ public final class HeapwrightLab {
             return -1;
         }
 
-        int firstWithExactly(int size) {
+        int firstOfSize(int size) {
             for (int i = 0; i < count; i++) {
                 if (sizes[i] == size) {
                     return i;
@@ -1067,7 +1067,7 @@ public final class HeapwrightLab {
 
         int search(int room) {
             // Below the class 128 only free slots are so small, and a page of it is never left free.
-            int slot = room < PAGE ? holes.firstWithExactly(room) : -1;
+            int slot = room < PAGE ? holes.firstOfSize(room) : -1;
             if (slot >= 0) {
                 seen = pagesOf(room, holes.placeOf(slot));
                 return slot;
