@@ -6,18 +6,40 @@ final class Checks {
 
     private static int made = 0;
     private static int wrong = 0;
+    private static int sentences = 0;
+    private static String sentence = "";
 
     private Checks() {
+    }
+
+    /** The test of one sentence of the document; it is told with each wrong answer. */
+    static void sentence(String words, Runnable test) {
+        sentence = "\"" + words + "\": ";
+        sentences++;
+        int before = made;
+        try {
+            test.run();
+        } catch (RuntimeException thrown) {
+            tell("broke off by " + thrown);
+        }
+        if (made == before) {
+            tell("nothing was asked");
+        }
+        sentence = "";
     }
 
     static void due(String what, Object want, Call call) {
         Object got = outcome(call);
         made++;
         if (!got.equals(want)) {
-            wrong++;
-            if (wrong <= 50) {
-                System.out.println(what + " answered " + got + ", due is " + want);
-            }
+            tell(what + " answered " + got + ", due is " + want);
+        }
+    }
+
+    private static void tell(String text) {
+        wrong++;
+        if (wrong <= 50) {
+            System.out.println(sentence + text);
         }
     }
 
@@ -35,7 +57,7 @@ final class Checks {
     }
 
     static void end() {
-        System.out.println(made + " answers, " + wrong + " wrong");
+        System.out.println((sentences > 0 ? sentences + " sentences, " : "") + made + " answers, " + wrong + " wrong");
         if (wrong != 0) {
             System.exit(1);
         }

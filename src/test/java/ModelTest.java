@@ -1,3 +1,6 @@
+import java.util.ArrayList;
+import java.util.List;
+
 /**
  * Runs of calls, drawn from fixed seeds, on the class and on the plain model; every answer and every
  * exception must be the same. Runs differ in what they like to do, so that full memories, many
@@ -10,7 +13,13 @@ public final class ModelTest {
 
     private long state;
     private HeapwrightLab lab;
+    private int used;
     private PlainLab plain;
+    /** What made the present state, from the last reset on. */
+    private final List<Made> made = new ArrayList<>();
+
+    private record Made(String call, int a, int b, int c) {
+    }
 
     public static void main(String[] args) {
         int runs = args.length > 0 ? Integer.parseInt(args[0]) : RUNS;
@@ -115,10 +124,31 @@ public final class ModelTest {
     }
 
     private void both(int run, String call, int a, int b, int c) {
+        if (used >= CALLS) {
+            renew();
+        }
+        int deeds = plain.deeds();
         Object want = Checks.outcome(() -> onPlain(call, a, b, c));
         String what = "run " + run + ", deed " + plain.deeds() + ", way " + plain.way() + ": " + call + "(" + a + ", "
             + b + ", " + c + ")";
         Checks.due(what, want, () -> onLab(call, a, b, c));
+        used++;
+        boolean begun = call.equals("reset") && want instanceof Integer;
+        if (begun) {
+            made.clear();
+        }
+        if (begun || plain.deeds() != deeds) {
+            made.add(new Made(call, a, b, c));
+        }
+    }
+
+    /** Nothing is promised of an object after its 512th call: a new one is brought to the same state. */
+    private void renew() {
+        lab = new HeapwrightLab();
+        used = made.size();
+        for (Made each : made) {
+            onLab(each.call, each.a, each.b, each.c);
+        }
     }
 
     private int drawn(int bound) {

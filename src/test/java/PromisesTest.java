@@ -1,9 +1,5 @@
 /** For each promise of the document: ordinary answers, the edges that it names, and wrong inputs. */
-public final class PromisesTest {
-    private static final Class<?> ARGUMENT = IllegalArgumentException.class;
-    private static final Class<?> STATE = IllegalStateException.class;
-    private static final Class<?> INDEX = IndexOutOfBoundsException.class;
-
+public final class PromisesTest extends LabChecks {
     private PromisesTest() {
     }
 
@@ -44,76 +40,6 @@ public final class PromisesTest {
         promise35Digest();
         nothingChangesWhatIsAsked();
         Checks.end();
-    }
-
-    private static void due(String what, Object want, Checks.Call call) {
-        Checks.due(what, want, call);
-    }
-
-    private static HeapwrightLab lab(int way, int step, int head, int... sizes) {
-        HeapwrightLab x = new HeapwrightLab();
-        x.reset(way, step, head);
-        for (int size : sizes) {
-            x.ask(size);
-        }
-        return x;
-    }
-
-    /** Holes of 100 at 0, of 50 at 110, of 70 at 170 and of 774 at 250; the hand of NEXT is 250. */
-    private static HeapwrightLab fourHoles(int way) {
-        HeapwrightLab x = lab(way, 1, 0, 100, 10, 50, 10, 70, 10);
-        x.giveBack(0);
-        x.giveBack(2);
-        x.giveBack(4);
-        return x;
-    }
-
-    private static HeapwrightLab withDeeds(HeapwrightLab x, int many) {
-        while (x.deeds() + 1 < many) {
-            x.open();
-            x.close();
-        }
-        if (x.deeds() < many) {
-            x.open();
-        }
-        return x;
-    }
-
-    private static void dueCounts(String what, HeapwrightLab x, int looked, int split, int joined, int moved,
-            int failed) {
-        due(what + ": LOOKED", looked, () -> x.counted(0));
-        due(what + ": SPLIT", split, () -> x.counted(1));
-        due(what + ": JOINED", joined, () -> x.counted(2));
-        due(what + ": MOVED", moved, () -> x.counted(3));
-        due(what + ": FAILED", failed, () -> x.counted(4));
-    }
-
-    private static void dueHoles(String what, HeapwrightLab x, int... placesAndSizes) {
-        due(what + ": holes", placesAndSizes.length / 2, x::holes);
-        for (int i = 0; i < placesAndSizes.length / 2; i++) {
-            int hole = i;
-            due(what + ": place of hole " + i, placesAndSizes[2 * i], () -> x.holePlace(hole));
-            due(what + ": size of hole " + i, placesAndSizes[2 * i + 1], () -> x.holeSize(hole));
-        }
-    }
-
-    private static void dueBare(String what, HeapwrightLab x, int way) {
-        due(what + ": way", way, x::way);
-        due(what + ": names", 0, x::names);
-        due(what + ": deeds", 0, x::deeds);
-        due(what + ": arenas", 0, x::arenas);
-        due(what + ": blocks", 0, x::blocks);
-        due(what + ": hand", 0, x::hand);
-        due(what + ": used", 0, x::used);
-        due(what + ": peak", 0, x::peak);
-        due(what + ": a name", INDEX, () -> x.isThere(0));
-        dueHoles(what, x, 0, 1024);
-        dueCounts(what, x, 0, 0, 0, 0, 0);
-        for (int each = 0; each < 6; each++) {
-            int other = each;
-            due(what + ": peak again", 0, () -> x.again(other, 5));
-            due(what + ": holes again", 1, () -> x.again(other, 6));
-        }
     }
 
     private static void promise1NewObject() {
