@@ -18,7 +18,7 @@ public final class EdgesOfBuddiesTest extends LabChecks {
         Checks.sentence("As a BLOCK is given back, it becomes a HOLE", EdgesOfBuddiesTest::becomesHole);
         Checks.sentence("as long as the other half of what it was split from is a HOLE", EdgesOfBuddiesTest::otherHalf);
         Checks.sentence("is a HOLE with as many UNITS, both are JOINED", EdgesOfBuddiesTest::asManyUnits);
-        Checks.sentence("(from Terms:) was not to be had", EdgesOfBuddiesTest::noneLargeEnough);
+        Checks.sentence("A BLOCK that was given back, or was not to be had, is NOT THERE", EdgesOfBuddiesTest::noneLargeEnough);
         Checks.end();
     }
 

@@ -86,6 +86,7 @@ public final class EdgesOfCallsTest extends LabChecks {
         Checks.sentence("34: if there is no such name; if it is NOT THERE", EdgesOfCallsTest::largestWithoutWrong);
         Checks.sentence("35: A number d starts with 2657", EdgesOfCallsTest::digestOfBare);
         Checks.sentence("35: which wraps around as a 64-bit integer, for each v in this order", EdgesOfCallsTest::digestWraps);
+        Checks.sentence("35: wouldBe() of 1, 30 and 120", EdgesOfCallsTest::digestWouldBe);
         Checks.sentence("what would be (nothing is changed, nor counted)", EdgesOfCallsTest::nothingCounted);
     }
 
@@ -124,8 +125,16 @@ public final class EdgesOfCallsTest extends LabChecks {
                 x.reset(way, 1, 0);
                 dueBare("from " + before + " to " + way, x, way);
                 due("no arena", STATE, x::close);
-                due("the first name", 0, () -> x.ask(8));
-                due("STEP and HEAD", 8, () -> x.room(0));
+                for (int name = 0; name < 4; name++) {
+                    int next = name;
+                    due("the names begin anew", next, () -> x.ask(8));
+                    dueBlock("STEP and HEAD, and the places begin anew", x, next, next * 8, 8, 8);
+                }
+                for (int other = FIRST; other <= SLAB; other++) {
+                    int again = other;
+                    due("again, in a bare one", 32, () -> x.again(again, 5));
+                    due("again, none FAILED", 0, () -> x.again(again, 4));
+                }
             }
         }
         HeapwrightLab full = withDeeds(withNames(lab(NEXT, 1, 0), 80), 150);
@@ -1058,6 +1067,24 @@ public final class EdgesOfCallsTest extends LabChecks {
                 together.together();
                 dueDigest("put together", together);
             }
+        }
+    }
+
+    /** Of the sizes 1, 30 and 120, and of those just below and just above, each has a hole of its own ROOM. */
+    private static HeapwrightLab holesOfManySizes(int way) {
+        HeapwrightLab x = lab(way, 1, 1, 2, 1, 1, 1, 2, 1, 29, 1, 30, 1, 31, 1, 119, 1, 120, 1, 121, 1, 300);
+        x.resize(0, 1);
+        return without(x, 2, 4, 6, 8, 10, 12, 14, 16);
+    }
+
+    private static void digestWouldBe() {
+        HeapwrightLab first = holesOfManySizes(FIRST);
+        dueHoles("by their sizes", first, 2, 1, 5, 2, 9, 3, 14, 30, 46, 31, 79, 32, 113, 120, 235, 121, 358, 122, 783, 241);
+        due("wouldBe() of 1", 5, () -> first.wouldBe(1));
+        due("wouldBe() of 30", 46, () -> first.wouldBe(30));
+        due("wouldBe() of 120", 235, () -> first.wouldBe(120));
+        for (int way = FIRST; way <= WORST; way++) {
+            dueDigest("many holes", holesOfManySizes(way));
         }
     }
 

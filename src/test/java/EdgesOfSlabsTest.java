@@ -15,7 +15,7 @@ public final class EdgesOfSlabsTest extends LabChecks {
         Checks.sentence("without any, the first free PAGE (free ones are not LOOKED at) becomes one of the CLASS",
             EdgesOfSlabsTest::firstFreePage);
         Checks.sentence("(a SPLIT, but for the CLASS 128)", EdgesOfSlabsTest::split);
-        Checks.sentence("(from Terms:) was not to be had", EdgesOfSlabsTest::noPage);
+        Checks.sentence("A BLOCK that was given back, or was not to be had, is NOT THERE", EdgesOfSlabsTest::noPage);
         Checks.sentence("Larger ones take the first free PAGES in a row that are enough", EdgesOfSlabsTest::pagesInRow);
         Checks.sentence("nothing is LOOKED at or SPLIT by that", EdgesOfSlabsTest::nothingLooked);
         Checks.sentence("A PAGE without BLOCKS is free again", EdgesOfSlabsTest::freeAgain);

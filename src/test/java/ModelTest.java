@@ -7,7 +7,7 @@ import java.util.List;
  * failures, full traces and deep arenas all come up.
  */
 public final class ModelTest {
-    private static final int RUNS = 250;
+    private static final int RUNS = 200;
     private static final int CALLS = 512;
     private static final int[] ODD = {Integer.MIN_VALUE, -1, 0, 1, 300, 301, 1023, 1024, Integer.MAX_VALUE};
 
