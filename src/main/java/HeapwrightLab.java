@@ -1031,10 +1031,11 @@ public final class HeapwrightLab {
 
         /** All halves that can be joined are joined, so each hole is as large as its place lets it. */
         void addGap(int from, int to) {
-            int part;
-            for (int place = from; place < to; place += part) {
-                part = largestPart(place, to);
+            int place = from;
+            for (int i = 0; i < MOST_HOLES && place < to; i++) {
+                int part = largestPart(place, to);
                 holes.add(place, part);
+                place += part;
             }
         }
 
@@ -1081,14 +1082,16 @@ public final class HeapwrightLab {
         }
 
         void addGap(int from, int to) {
-            int part;
-            for (int place = from; place < to; place += part) {
+            int place = from;
+            for (int i = 0; i < MOST_HOLES && place < to; i++) {
+                int part;
                 if (place % PAGE == 0 && to - place >= PAGE) {
                     part = (to - place) / PAGE * PAGE;
                 } else {
                     part = Math.max(classOf(place / PAGE), LEAST_PART);
                 }
                 holes.add(place, part);
+                place += part;
             }
         }
 

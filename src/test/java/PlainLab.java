@@ -261,7 +261,7 @@ final class PlainLab {
     }
 
     private PlainMemory copy() {
-        return new PlainMemory(now.way, now.step, now.head, deeds);
+        return new PlainMemory(now);
     }
 
     private int perform(int kind, int first, int second) {

@@ -52,6 +52,23 @@ final class PlainMemory {
         }
     }
 
+    PlainMemory(PlainMemory other) {
+        this(other.way, other.step, other.head);
+        for (int name = 0; name < other.blocks.size(); name++) {
+            Block block = other.blocks.get(name);
+            blocks.add(new Block());
+            set(name, block.place, block.size, block.room);
+        }
+        other.arenas.forEach(arena -> arenas.add(new ArrayList<>(arena)));
+        System.arraycopy(other.owner, 0, owner, 0, owner.length);
+        buddyHoles.clear();
+        buddyHoles.putAll(other.buddyHoles);
+        System.arraycopy(other.pages, 0, pages, 0, pages.length);
+        System.arraycopy(other.counts, 0, counts, 0, counts.length);
+        hand = other.hand;
+        peak = other.peak;
+    }
+
     boolean isThere(int name) {
         return blocks.get(name).there();
     }
